@@ -448,24 +448,22 @@ public final class DungeonBuilder {
         return y * COLUMNS + x;
     }
 
-    /** The library's own function is not at hand; scaling by 2 loses nothing, so the bits are exact. */
-    private static long bitsOf(double value) {
-        if (value == 0.0) {
+    /**
+     * The library's own function is not at hand; halving loses nothing, so the bits are exact. An average is 0, that of
+     * the entrance alone by curve 0, or at least 1: by curve 2, at most 20 corridors need so many rooms that these
+     * outweigh what the corridors take away.
+     */
+    private static long bitsOf(double average) {
+        if (average < 1.0) {
             return 0L;
         }
-        double rest = value < 0.0 ? -value : value;
-        int exponent = 1023;
+        double rest = average;
+        long exponent = 1023L;
         for (int i = 0; i < 1023 && rest >= 2.0; i++) {
             rest = rest / 2.0;
             exponent++;
         }
-        for (int i = 0; i < 1022 && rest < 1.0; i++) {
-            rest = rest * 2.0;
-            exponent--;
-        }
-        long fraction = (long) ((rest - 1.0) * 4503599627370496.0);
-        long minus = value < 0.0 ? Long.MIN_VALUE : 0L;
-        return minus | (long) exponent << 52 | fraction;
+        return exponent << 52 | (long) ((rest - 1.0) * 4503599627370496.0);
     }
 
     /**

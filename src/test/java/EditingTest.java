@@ -26,6 +26,7 @@ public final class EditingTest {
         promise11Colors();
         promise11OrderOfErrors();
         promise12SetCurve();
+        whereAllIsFull();
         Check.end();
     }
 
@@ -44,6 +45,19 @@ public final class EditingTest {
         for (int i = 0; i < pairs.length; i += 2) {
             Check.due("addCorridor for the grid", d.addCorridor(pairs[i], pairs[i + 1]), i / 2);
         }
+        return d;
+    }
+
+    /** As many rooms and corridors as there can be: 0 has corridors to all, 1 to all but 11. */
+    static DungeonBuilder full() {
+        DungeonBuilder d = grid(12);
+        for (int b = 1; b < 12; b++) {
+            d.addCorridor(0, b);
+        }
+        for (int b = 2; b < 11; b++) {
+            d.addCorridor(1, b);
+        }
+        Check.due("corridors where all is full", d.count(1), 20);
         return d;
     }
 
@@ -122,14 +136,7 @@ public final class EditingTest {
     }
 
     private static void promise3OrderOfErrors() {
-        DungeonBuilder d = grid(12);
-        for (int b = 1; b < 12; b++) {
-            d.addCorridor(0, b);
-        }
-        for (int b = 2; b < 11; b++) {
-            d.addCorridor(1, b);
-        }
-        Check.due("20 corridors", d.count(1), 20);
+        DungeonBuilder d = full();
         Check.due("addCorridor(1, 11)", d.addCorridor(1, 11), FULL);
         Check.due("addCorridor(1, 10) among 20", d.addCorridor(1, 10), CONFLICT);
         Check.due("addCorridor(11, 11) among 20", d.addCorridor(11, 11), BAD_VALUE);
@@ -344,6 +351,10 @@ public final class EditingTest {
         locked.setLock(4, 5);
         Check.due("0 again", locked.placeLock(), 0);
         Check.due("not behind a lock that stays closed, of several the lowest", locked.room(3, 4), 0);
+        locked = grid(6, pairs);
+        locked.setLock(4, 0);
+        Check.due("0 again", locked.placeLock(), 0);
+        Check.due("also of color 0", locked.room(3, 4), 1);
         DungeonBuilder opened = grid(6, pairs);
         opened.setLock(4, 5);
         opened.setKey(3, 5);
@@ -417,5 +428,30 @@ public final class EditingTest {
         Check.due("setCurve(MIN)", d.setCurve(Integer.MIN_VALUE), BAD_VALUE);
         Check.due("setCurve(0)", d.setCurve(0), 1);
         Check.due("setCurve(0) again", d.setCurve(0), 0);
+    }
+
+    private static void whereAllIsFull() {
+        DungeonBuilder d = full();
+        Check.due("the only bridge", d.placeLock(), 10);
+        Check.due("the deepest room without a key, of several the lowest", d.room(1, 4), 0);
+        Check.due("removeRoom(11)", d.removeRoom(11), 11);
+        Check.due("corridors", d.count(1), 19);
+        d.undo();
+        Check.due("removeCorridor(19)", d.removeCorridor(19), 19);
+        d.undo();
+        Check.due("removeCorridor(0)", d.removeCorridor(0), 19);
+        Check.due("corridor(18, 1)", d.corridor(18, 1), 10);
+        d.undo();
+        Check.due("removeRoom(0)", d.removeRoom(0), 11);
+        Check.due("corridors", d.count(1), 9);
+        Check.due("corridor(8, 1)", d.corridor(8, 1), 9);
+        d.undo();
+        Check.due("corridors", d.count(1), 20);
+        d.removeRoom(11);
+        d.addRoom(22, 14, 2, 2);
+        d.addCorridor(2, 3);
+        Check.due("removeRoom(11) without corridors", d.removeRoom(11), 11);
+        Check.due("corridors", d.count(1), 20);
+        Check.due("corridor(19, 1)", d.corridor(19, 1), 3);
     }
 }

@@ -7,6 +7,7 @@ public final class HistoryTest {
         promise16EveryChange();
         promise16NoChanges();
         promise16TheLatestSix();
+        promise16RefusedCalls();
         promise16AfterUndoing();
         promise16NothingChanges();
         promise16TheText();
@@ -17,7 +18,7 @@ public final class HistoryTest {
     }
 
     private static DungeonBuilder dungeon() {
-        DungeonBuilder d = EditingTest.grid(5, 0, 1, 1, 2, 2, 3);
+        DungeonBuilder d = Check.made("r0,0,2,3;r4,0,3,2;r8,1,5,4;r16,0,7,3;r16,4,4,8", "c0,1;c1,2;c2,3");
         d.setLock(1, 2);
         d.setKey(1, 2);
         d.setEntrance(1);
@@ -28,7 +29,7 @@ public final class HistoryTest {
     private static int change(DungeonBuilder d, int which) {
         switch (which) {
             case 0:
-                return d.addRoom(0, 8, 3, 3);
+                return d.addRoom(0, 8, 3, 5);
             case 1:
                 return d.addCorridor(0, 2);
             case 2:
@@ -117,6 +118,23 @@ public final class HistoryTest {
         }
         Check.due("undo() of older changes", d.undo(), NONE);
         Check.due("rooms", d.count(0), 4);
+    }
+
+    private static void promise16RefusedCalls() {
+        for (int changes = 6; changes < 13; changes++) {
+            DungeonBuilder d = EditingTest.grid(1);
+            for (int i = 0; i < changes; i++) {
+                d.setKey(0, i % 6);
+            }
+            d.setKey(9, 0);
+            d.addLoop();
+            Check.write(d, "k0,5;e9");
+            d.read();
+            for (int i = 5; i >= 0; i--) {
+                Check.due("undo() after refused calls", d.undo(), i);
+            }
+            Check.due("the key before six of " + changes, d.room(0, 4), changes == 6 ? NONE : changes - 7);
+        }
     }
 
     private static void promise16AfterUndoing() {

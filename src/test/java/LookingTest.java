@@ -14,11 +14,13 @@ public final class LookingTest {
         promise21Entrance();
         promise22Cell();
         promise22TheWayOfACorridor();
+        promise22LongRooms();
         promise23Sign();
         promise23LocksOnACell();
         promise24Steps();
         promise24AcrossCorridors();
         promise24Errors();
+        whereAllIsFull();
         Check.end();
     }
 
@@ -50,6 +52,7 @@ public final class LookingTest {
     }
 
     private static void promise17Groups() {
+        Check.due("groups that lie among each other", EditingTest.grid(5, 0, 2, 1, 3, 2, 4).count(7), 2);
         DungeonBuilder d = EditingTest.grid(7);
         Check.due("groups without corridors", d.count(7), 7);
         Check.due("bridges without corridors", d.count(8), 0);
@@ -166,8 +169,8 @@ public final class LookingTest {
         int[][] due = {{0, 0, 0}, {1, 1, 0}, {2, 1, 20}, {9, 1, 20}, {10, 1, 1}, {11, 1, 1}, {12, 1, 20}, {19, 1, 20},
             {20, 1, 2}, {21, 0, 2}, {22, 1, NONE}, {11, 2, 22}, {11, 7, 22}, {11, 8, 3}, {10, 2, NONE}, {11, 10, NONE},
             {2, 0, NONE}, {2, 2, NONE}, {23, 15, NONE}, {24, 0, NO_SUCH_ELEMENT}, {0, 16, NO_SUCH_ELEMENT},
-            {-1, 0, NO_SUCH_ELEMENT}, {0, -1, NO_SUCH_ELEMENT}, {Integer.MAX_VALUE, 0, NO_SUCH_ELEMENT},
-            {0, Integer.MIN_VALUE, NO_SUCH_ELEMENT}, {-24, 1, NO_SUCH_ELEMENT}, {24, -1, NO_SUCH_ELEMENT}};
+            {-1, 0, NO_SUCH_ELEMENT}, {0, -1, NO_SUCH_ELEMENT}, {-1, 1, NO_SUCH_ELEMENT}, {24, 14, NO_SUCH_ELEMENT},
+            {Integer.MAX_VALUE, 0, NO_SUCH_ELEMENT}, {0, Integer.MIN_VALUE, NO_SUCH_ELEMENT}, {-24, 1, NO_SUCH_ELEMENT}, {24, -1, NO_SUCH_ELEMENT}};
         for (int[] c : due) {
             Check.due("cell(" + c[0] + ", " + c[1] + ")", d.cell(c[0], c[1]), c[2]);
         }
@@ -198,6 +201,30 @@ public final class LookingTest {
         for (int[] c : back) {
             Check.due("back: cell(" + c[0] + ", " + c[1] + ")", up.cell(c[0], c[1]), c[2]);
         }
+    }
+
+    private static void promise22LongRooms() {
+        DungeonBuilder d = Check.made("r2,1,9,3;r15,4,2,11");
+        int[][] due = {{2, 1, 0}, {10, 1, 0}, {11, 1, NONE}, {2, 3, 0}, {10, 3, 0}, {2, 4, NONE}, {4, 5, NONE},
+            {15, 4, 1}, {16, 4, 1}, {17, 4, NONE}, {15, 14, 1}, {16, 14, 1}, {15, 15, NONE}, {14, 4, NONE}, {15, 3, NONE}};
+        for (int[] c : due) {
+            Check.due("cell(" + c[0] + ", " + c[1] + ")", d.cell(c[0], c[1]), c[2]);
+        }
+    }
+
+    private static void whereAllIsFull() {
+        DungeonBuilder d = EditingTest.full();
+        int[] due = {12, 20, 0, 0, 48, -1, 1, 1, 1, 0};
+        for (int what = 0; what < 10; what++) {
+            if (what != 5) {
+                Check.due("count(" + what + ")", d.count(what), due[what]);
+            }
+        }
+        Check.due("room(11, 5)", d.room(11, 5), 1);
+        Check.due("corridor(19, 1)", d.corridor(19, 1), 10);
+        Check.due("between(1, 10)", d.between(1, 10), 19);
+        Check.due("cell(21, 9)", d.cell(21, 9), 11);
+        Check.due("sign(21, 9)", d.sign(21, 9), 'o');
     }
 
     private static void promise23Sign() {

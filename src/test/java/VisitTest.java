@@ -17,6 +17,8 @@ public final class VisitTest {
         promise38Drops();
         promise39Backtracking();
         promise40AverageBits();
+        anewAfterAChange();
+        whereAllIsFull();
         Check.end();
     }
 
@@ -166,6 +168,9 @@ public final class VisitTest {
         d.setKey(1, 5);
         d.setKey(2, 3);
         Check.due("several keys", d.keysFound(), 1 + 8 + 32);
+        DungeonBuilder alone = EditingTest.grid(1);
+        alone.setKey(0, 4);
+        Check.due("the key in the only room", alone.keysFound(), 16);
         d.setKey(4, -1);
         Check.due("up to the lock", d.keysFound(), 32);
         d.setEntrance(5);
@@ -202,6 +207,9 @@ public final class VisitTest {
         DungeonBuilder large = Check.made("r0,0,8,8;r8,0,8,8;r16,0,2,2;r20,0,2,2;c0,1;c1,2;c2,3");
         large.setCurve(1);
         Check.due("drops() by curve 1", large.drops(), 1);
+        DungeonBuilder least = Check.made("r0,0,2,6;r4,0,2,2;c0,1");
+        least.setCurve(1);
+        Check.due("drops() by one: 3, 2", least.drops(), 1);
         large.setEntrance(3);
         Check.due("drops() the other way", large.drops(), 0);
         large.setCurve(2);
@@ -242,5 +250,49 @@ public final class VisitTest {
         DungeonBuilder least = Check.made("r0,0,2,2;r2,0,2,3;r4,0,2,2;c0,1;c0,2");
         least.setCurve(1);
         average("one sixth steps", least, 5.0 / 3.0);
+    }
+
+    /** Every answer is asked for first after a change, so that none can come from what another call has worked out. */
+    private static void anewAfterAChange() {
+        DungeonBuilder d = EditingTest.grid(2, 0, 1);
+        Check.due("depth(1)", d.depth(1), 1);
+        d.setEntrance(1);
+        Check.due("depth(1), the entrance", d.depth(1), 0);
+        d.setEntrance(0);
+        Check.due("difficulty(1)", d.difficulty(1), 10);
+        d.setEntrance(1);
+        Check.due("visit(0)", d.visit(0), 1);
+        d.setEntrance(0);
+        Check.due("visitedAt(0)", d.visitedAt(0), 0);
+        d.removeCorridor(0);
+        Check.due("visits()", d.visits(), 1);
+        d.addCorridor(0, 1);
+        Check.due("isSolvable()", d.isSolvable(), 1);
+        d.removeCorridor(0);
+        Check.due("tension(1)", d.tension(1), NO_SUCH_ELEMENT);
+        d.addCorridor(0, 1);
+        d.setCurve(2);
+        Check.due("drops(): 90, 91", d.drops(), 0);
+        d.setCurve(0);
+        Check.due("backtracking()", d.backtracking(), 1);
+        d.removeCorridor(0);
+        Check.due("averageBits()", d.averageBits(), Double.doubleToLongBits(250.0));
+    }
+
+    private static void whereAllIsFull() {
+        DungeonBuilder d = EditingTest.full();
+        order("full", d, 0, 1, 2, 3, 4, 5, 6, 7, 8, 9, 10, 11);
+        Check.due("keysFound()", d.keysFound(), 0);
+        Check.due("isSolvable()", d.isSolvable(), 1);
+        Check.due("drops()", d.drops(), 0);
+        Check.due("backtracking(): 1 + 1 + 8 times 2 + 2", d.backtracking(), 20);
+        average("twelve rooms", d, 110.0 / 12.0);
+        d.setCurve(2);
+        // By curve 2: -10, 1, nine times 81, 91; so -10 to 1 to 81 and so on.
+        Check.due("difficulty(0)", d.difficulty(0), -10);
+        Check.due("difficulty(1)", d.difficulty(1), 1);
+        Check.due("difficulty(10)", d.difficulty(10), 81);
+        Check.due("difficulty(11)", d.difficulty(11), 91);
+        average("twelve rooms by curve 2", d, (-10 + 1 + 9 * 81 + 91) / 12.0);
     }
 }

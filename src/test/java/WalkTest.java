@@ -13,6 +13,8 @@ public final class WalkTest {
         promise35TheLeastWalk();
         promise35KeysOnTheWay();
         promise36CriticalLength();
+        anewAfterAChange();
+        whereMuchIsConnected();
         Check.end();
     }
 
@@ -33,6 +35,16 @@ public final class WalkTest {
         Check.due("needed(0) behind a lock", d.needed(0), NONE);
         Check.due("needed(0) without rooms", new DungeonBuilder().needed(0), NO_SUCH_ELEMENT);
         Check.due("needed(1) apart", EditingTest.grid(2).needed(1), NONE);
+        Check.due("needed(0) of the only room", EditingTest.grid(1).needed(0), 0);
+        for (int color = 0; color < 6; color++) {
+            DungeonBuilder closed = EditingTest.grid(2, 0, 1);
+            closed.setLock(0, color);
+            Check.due("needed(1) without the key " + color, closed.needed(1), NONE);
+            Check.due("missing(1) without the key " + color, closed.missing(1), 1 << color);
+            closed.setKey(0, color);
+            Check.due("needed(1) with the key " + color, closed.needed(1), 1 << color);
+            Check.due("missing(1) with the key " + color, closed.missing(1), NONE);
+        }
     }
 
     private static void promise32SeveralWays() {
@@ -167,5 +179,47 @@ public final class WalkTest {
         Check.due("criticalLength() with both keys", d.criticalLength(), 7);
         d.setKey(4, -1);
         Check.due("criticalLength() without the first key", d.criticalLength(), 2);
+    }
+
+    private static void anewAfterAChange() {
+        DungeonBuilder d = EditingTest.grid(1);
+        way(d, 0, 0);
+        d.addRoom(4, 0, 2, 2);
+        d.addCorridor(0, 1);
+        Check.due("walkRoom(1, 1)", d.walkRoom(1, 1), 1);
+        d.removeCorridor(0);
+        Check.due("criticalLength()", d.criticalLength(), 0);
+        d.addCorridor(0, 1);
+        Check.due("walkLength(1)", d.walkLength(1), 1);
+        d.setEntrance(1);
+        Check.due("walkRoom(1, 0)", d.walkRoom(1, 0), 1);
+    }
+
+    /** There are very many walks here, most of which go round and round. */
+    private static void whereMuchIsConnected() {
+        DungeonBuilder d = EditingTest.grid(11);
+        for (int a = 0; a < 6; a++) {
+            for (int b = a + 1; b < 6; b++) {
+                d.addCorridor(a, b);
+            }
+        }
+        for (int room = 5; room < 10; room++) {
+            d.addCorridor(room, room + 1);
+        }
+        way(d, 10, 0, 5, 6, 7, 8, 9, 10);
+        for (int color = 0; color < 5; color++) {
+            d.setKey(color, color);
+            d.setLock(15 + color, color);
+        }
+        way(d, 10, 0, 1, 2, 3, 4, 5, 6, 7, 8, 9, 10);
+        Check.due("needed(10)", d.needed(10), 31);
+        Check.due("criticalLength()", d.criticalLength(), 10);
+        DungeonBuilder full = EditingTest.full();
+        Check.due("criticalLength() where all is full", full.criticalLength(), 1);
+        full.setKey(11, 5);
+        full.setLock(0, 5);
+        full.setLock(11, 5);
+        way(full, 2, 0, 2);
+        way(full, 1, 0, 3, 1);
     }
 }
