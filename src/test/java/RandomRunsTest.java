@@ -28,11 +28,13 @@ public final class RandomRunsTest {
     }
 
     private void run(int number) {
-        int kind = number % 5;
+        int kind = number % 6;
         for (int i = 0; calls.size() < CALLS && Check.clean(); i++) {
             int which = random.nextInt(100);
             if (i < 40 && kind != 4) {
                 grow(kind);
+            } else if (kind == 5) {
+                lockAndWalk(which);
             } else if (which < 28) {
                 change();
             } else if (which < 34) {
@@ -70,9 +72,10 @@ public final class RandomRunsTest {
 
     private void grow(int kind) {
         int which = random.nextInt(10);
-        if (kind == 0 && model.now.rooms.isEmpty()) {
+        boolean built = kind == 0 || kind == 5;
+        if (built && model.now.rooms.isEmpty()) {
             build();
-        } else if (kind != 0 && which < 5) {
+        } else if (!built && which < 5) {
             addRoom(kind == 1 ? 3 : 6);
         } else if (which < 7) {
             addCorridor();
@@ -82,6 +85,24 @@ public final class RandomRunsTest {
             setKey();
         } else {
             due("placeLock()", builder.placeLock(), model.placeLock());
+        }
+    }
+
+    /** Many locks and keys of few colors, so that walks are long and of many turns. */
+    private void lockAndWalk(int which) {
+        int color = random.nextInt(3);
+        int room = anyRoom();
+        int corridor = anyCorridor();
+        if (which < 12) {
+            due("setLock(" + corridor + "," + color + ")", builder.setLock(corridor, color), model.setLock(corridor, color));
+        } else if (which < 20) {
+            due("setKey(" + room + "," + color + ")", builder.setKey(room, color), model.setKey(room, color));
+        } else if (which < 24) {
+            due("setEntrance(" + room + ")", builder.setEntrance(room), model.setEntrance(room));
+        } else if (which < 70) {
+            askWalk(room);
+        } else {
+            askVisit(room);
         }
     }
 
@@ -248,7 +269,7 @@ public final class RandomRunsTest {
     }
 
     private void askWalk(int room) {
-        int step = pick(0, 6);
+        int step = pick(0, Math.max(0, model.walkLength(room)));
         due("walkLength(" + room + ")", builder.walkLength(room), model.walkLength(room));
         due("walkRoom(" + room + "," + step + ")", builder.walkRoom(room, step), model.walkRoom(room, step));
         due("criticalLength()", builder.criticalLength(), model.criticalLength());
