@@ -858,15 +858,15 @@ public final class DungeonBuilder {
 
         private boolean parseCommands() {
             position = 0;
-            for (commands = 0; commands < MOST_COMMANDS; commands++) {
-                if (commands > 0 && !skip(';')) {
+            for (int i = 0; i < MOST_COMMANDS; i++) {
+                if (i > 0 && !skip(';')) {
                     return false;
                 }
-                if (!parseCommand(commands)) {
+                if (!parseCommand(i)) {
                     return false;
                 }
                 if (position == length) {
-                    commands++;
+                    commands = i + 1;
                     return true;
                 }
             }

@@ -244,6 +244,18 @@ public final class VisitTest {
         average("eleven rooms", d, (10 + 10 + 10 + 20 + 6 * 500) / 11.0);
         d.setCurve(2);
         average("eleven rooms by curve 2", d, (70 + 91 + 91 + 81 + 92 + 6 * 500) / 11.0);
+        DungeonBuilder one = EditingTest.grid(1);
+        one.setCurve(1);
+        average("the least room by curve 1", one, 1.0);
+        one.setCurve(2);
+        average("one room by curve 2", one, 100.0);
+        int[][] powers = {{2, 4, 2}, {4, 4, 4}, {4, 8, 8}, {8, 8, 16}};
+        for (int[] power : powers) {
+            DungeonBuilder room = new DungeonBuilder();
+            room.addRoom(0, 0, power[0], power[1]);
+            room.setCurve(1);
+            average("a power of two", room, power[2]);
+        }
         DungeonBuilder small = EditingTest.grid(2, 0, 1);
         small.setCurve(1);
         average("small numbers", small, 3.0 / 2.0);
