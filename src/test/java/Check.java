@@ -26,11 +26,37 @@ final class Check {
         return wrong == 0;
     }
 
+    /** A test of its own for some words of the document; it fails if an answer is wrong, and if it asks nothing. */
+    static void words(String words, Runnable test) {
+        int askedBefore = asked;
+        int wrongBefore = wrong;
+        try {
+            test.run();
+        } catch (RuntimeException e) {
+            wrong++;
+            System.out.println("thrown: " + e);
+        }
+        if (asked == askedBefore) {
+            wrong++;
+            System.out.println("nothing was asked");
+        }
+        if (wrong != wrongBefore) {
+            System.out.println("BROKEN: " + words);
+        }
+    }
+
     /** A test that asked nothing has tested nothing, so it fails too. */
     static void end() {
         System.out.println(asked + " checks, " + wrong + " wrong");
         if (wrong != 0 || asked == 0) {
             System.exit(1);
+        }
+    }
+
+    /** The answers of a question that is asked once for each of the numbers from 0. */
+    static void row(String question, java.util.function.IntUnaryOperator asked, int... due) {
+        for (int i = 0; i < due.length; i++) {
+            due(question + " for " + i, asked.applyAsInt(i), due[i]);
         }
     }
 
