@@ -106,7 +106,7 @@ public final class BuildingTest {
         for (int i = 0; i < 6000 && Check.clean(); i++) {
             int seed = i * 715827883;
             int levels = i % 6;
-            d = i % 500 == 0 ? new DungeonBuilder() : d;
+            d = i % 6 == 0 ? new DungeonBuilder() : d;
             Model model = new Model();
             Check.due("build(" + seed + ", " + levels + ")", d.build(seed, levels), model.build(seed, levels));
             same("build(" + seed + ", " + levels + ")", d, model.now);

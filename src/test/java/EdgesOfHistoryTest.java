@@ -143,24 +143,15 @@ public final class EdgesOfHistoryTest {
 
     /** The change can be undone, as one; all is then as before it. */
     private static void isChange(String name, Supplier<DungeonBuilder> made, Consumer<DungeonBuilder> change) {
-        DungeonBuilder d = made.get();
-        String before = Check.picture(d);
-        change.accept(d);
-        String after = Check.picture(d);
-        Check.due("undo() of " + name, d.undo(), 5);
-        Check.holds(name + " is undone", before.equals(Check.picture(made.get())));
-        DungeonBuilder again = made.get();
-        change.accept(again);
-        again.undo();
-        Check.holds(name + " leaves nothing behind", before.equals(Check.picture(again)));
-        Check.holds(name + " has changed something", !before.equals(after));
-        DungeonBuilder next = made.get();
-        int still = next.undo();
-        Check.due("undo() before " + name, still, 5);
-        next = made.get();
-        change.accept(next);
-        next.undo();
-        Check.due("undo() of what was before " + name, next.undo(), 4);
+        String before = Check.picture(made.get());
+        DungeonBuilder changed = made.get();
+        change.accept(changed);
+        Check.holds(name + " has changed something", !before.equals(Check.picture(changed)));
+        DungeonBuilder undone = made.get();
+        change.accept(undone);
+        Check.due("undo() of " + name, undone.undo(), 5);
+        Check.holds(name + " is undone", before.equals(Check.picture(undone)));
+        Check.due("undo() of what was before " + name, undone.undo(), 4);
     }
 
     private static void everyChange() {
@@ -470,9 +461,9 @@ public final class EdgesOfHistoryTest {
     }
 
     private static void restoresAll() {
+        String saved = Check.picture(Makers.full());
         DungeonBuilder d = Makers.full();
         d.save();
-        String saved = Check.picture(d);
         for (int room = 0; room < 12; room++) {
             d.removeRoom(0);
         }

@@ -87,16 +87,19 @@ public final class TextTest {
     }
 
     private static void promise14Refused() {
-        DungeonBuilder d = Check.made("r0,0,2,2;r4,0,2,2;c0,1;k0,1");
-        String before = Check.picture(d);
+        String made = "r0,0,2,2;r4,0,2,2;c0,1;k0,1";
+        String before = Check.picture(Check.made(made));
         String[] refused = {"r8,0,2,2;e2;k2,5;l0,3;c0,2;r0,0,2,2", "e1;r0,0,2,13", "e1;c0,1", "e1;c1,1", "e1;c1,2",
             "e1;l1,1", "e1;l0,6", "e1;k2,0", "e1;k0,6", "e1;e2", "e1;e99"};
         for (String text : refused) {
+            DungeonBuilder d = Check.made(made);
             Check.write(d, text);
             Check.due("read() of " + text, d.read(), STATE);
             Check.due("the text is empty", d.count(9), 0);
             Check.holds("nothing has changed by " + text, before.equals(Check.picture(d)));
+            Check.due("no change came of it", d.undo(), 0);
         }
+        DungeonBuilder d = Check.made(made);
         Check.write(d, "e1;r8,0,2,2;");
         Check.due("read() with a fault after good commands", d.read(), BAD_VALUE);
         Check.due("the text is empty", d.count(9), 0);
