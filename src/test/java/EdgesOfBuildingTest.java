@@ -34,6 +34,7 @@ public final class EdgesOfBuildingTest {
         Check.words("then the lowest one of the second part", EdgesOfBuildingTest::lowestOfTheSecondPart);
         Check.words("the lowest room of the first part before that of the second part", EdgesOfBuildingTest::firstPartBeforeSecond);
         Check.words("everything is removed, including locks and keys, the entrance is room 0", EdgesOfBuildingTest::everythingIsRemoved);
+        Check.words("everything is removed: building after building", EdgesOfBuildingTest::builtAgain);
         Check.words("Building leaves the curve and the text as they are", EdgesOfBuildingTest::curveAndText);
         Check.words("addLoop: NONE if all rooms have corridors between them", EdgesOfBuildingTest::noLoop);
         Check.words("addLoop: FULL if there are 20 corridors", EdgesOfBuildingTest::fullOfLoops);
@@ -248,6 +249,32 @@ public final class EdgesOfBuildingTest {
         Check.due("build(1, 0) where nothing was", new DungeonBuilder().build(1, 0), 1);
     }
 
+    /** What is built does not depend on what was built or added before. */
+    private static void builtAgain() {
+        int[][] all = {{19, 5}, {1, 5}, {217, 5}, {217, 1}, {1, 0}, {9, 3}, {5, 2}, {217, 4}, {6, 1}};
+        for (int[] first : all) {
+            for (int[] then : all) {
+                DungeonBuilder d = new DungeonBuilder();
+                d.build(first[0], first[1]);
+                d.addLoop();
+                d.build(then[0], then[1]);
+                DungeonBuilder alone = new DungeonBuilder();
+                alone.build(then[0], then[1]);
+                String due = Check.picture(alone);
+                Check.holds("build(" + then[0] + ", " + then[1] + ") is as alone", due.equals(Check.picture(d)));
+            }
+        }
+        for (int seed = 0; seed < 300; seed++) {
+            DungeonBuilder d = new DungeonBuilder();
+            d.build(seed, 5);
+            d.build(-seed, 1 + seed % 3);
+            DungeonBuilder alone = new DungeonBuilder();
+            alone.build(-seed, 1 + seed % 3);
+            String due = Check.picture(alone);
+            Check.holds("build(" + -seed + ") is as alone", due.equals(Check.picture(d)));
+        }
+    }
+
     private static void curveAndText() {
         for (int curve = 0; curve <= 2; curve++) {
             DungeonBuilder d = Makers.rich();
@@ -443,6 +470,11 @@ public final class EdgesOfBuildingTest {
         DungeonBuilder star = Makers.star(12);
         star.setLock(0, 5);
         Check.due("all the same, the first has a lock", star.placeLock(), 1);
+        Check.due("the only bridge where all is full", Makers.bareFull().placeLock(), 10);
+        DungeonBuilder last = Makers.complete(6);
+        last.addRoom(22, 14, 2, 2);
+        last.addCorridor(0, 6);
+        Check.due("a bridge with a number above those of all rooms", last.placeLock(), 15);
     }
 
     private static void allRooms() {
@@ -496,10 +528,13 @@ public final class EdgesOfBuildingTest {
     }
 
     private static void roomsThatAVisitReaches() {
-        DungeonBuilder closed = Makers.grid(4, 0, 1, 0, 2, 2, 3);
-        closed.setLock(0, 5);
-        Check.due("placeLock()", closed.placeLock(), 1);
-        Check.due("not behind a lock", closed.room(0, 4), 0);
+        for (int color = 0; color <= 5; color++) {
+            DungeonBuilder closed = Makers.grid(4, 0, 1, 0, 2, 2, 3);
+            closed.setLock(0, color);
+            Check.due("placeLock()", closed.placeLock(), 1);
+            Check.due("not behind a lock", closed.room(0, 4), color == 0 ? 1 : 0);
+            Check.due("not behind a lock", closed.room(1, 4), NONE);
+        }
         DungeonBuilder open = Makers.grid(4, 0, 1, 0, 2, 2, 3);
         open.setLock(0, 5);
         open.setKey(0, 5);

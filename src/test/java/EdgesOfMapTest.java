@@ -276,6 +276,14 @@ public final class EdgesOfMapTest {
         Check.due("two rings and a bridge", Makers.grid(6, 0, 1, 1, 2, 0, 2, 2, 3, 3, 4, 4, 5, 3, 5).count(8), 1);
         Check.due("a bridge out of reach of the entrance", Makers.grid(6, 0, 1, 1, 2, 0, 2, 4, 5).count(8), 1);
         Check.due("where all is full", Makers.bareFull().count(8), 1);
+        DungeonBuilder last = Makers.grid(7);
+        for (int i = 0; i < 15; i++) {
+            last.addCorridor(i % 6, new int[] {1, 2, 3, 4, 5, 0, 2, 3, 4, 5, 0, 1, 3, 4, 5}[i]);
+        }
+        Check.due("corridors between six rooms", last.count(1), 15);
+        Check.due("none of them is a bridge", last.count(8), 0);
+        Check.due("the bridge to the last room", last.addCorridor(6, 5), 15);
+        Check.due("its number is above those of all rooms", last.count(8), 1);
     }
 
     private static void characters() {

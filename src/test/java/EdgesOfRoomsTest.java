@@ -402,6 +402,16 @@ public final class EdgesOfRoomsTest {
         Check.due("corridors of room 1", first.count(1), 9);
         Check.due("the first corridor", first.corridor(0, 1), 1);
         Check.due("the last corridor", first.corridor(8, 1), 9);
+        DungeonBuilder second = Makers.bareFull();
+        Check.due("removeRoom(2)", second.removeRoom(2), 11);
+        Check.due("corridors without 0-2 and 1-2", second.count(1), 18);
+        Check.due("0-11 is 0-10 now", second.corridor(9, 1), 10);
+        Check.due("1-10 is 1-9 now", second.corridor(17, 1), 9);
+        DungeonBuilder apart = Makers.complete(7);
+        apart.addRoom(22, 14, 2, 2);
+        Check.due("removeRoom(7) without corridors", apart.removeRoom(7), 7);
+        Check.due("corridors", apart.count(1), 20);
+        Check.due("the last corridor", apart.corridor(19, 1), 6);
     }
 
     private static void sizes() {

@@ -161,6 +161,15 @@ public final class EdgesOfVisitsTest {
         d.removeRoom(0);
         d.removeRoom(0);
         Check.due("visits() after removing all", d.visits(), 0);
+        for (int entrance = 0; entrance < 12; entrance++) {
+            DungeonBuilder apart = Makers.grid(12);
+            apart.setEntrance(entrance);
+            Check.due("visits() of rooms apart from " + entrance, apart.visits(), 1);
+            DungeonBuilder locked = Makers.line(12);
+            locked.setEntrance(entrance);
+            locked.setLock(0, 0);
+            Check.due("visits() without room 0, or of it alone", locked.visits(), entrance == 0 ? 1 : 11);
+        }
     }
 
     private static void entranceFirst() {
@@ -251,6 +260,13 @@ public final class EdgesOfVisitsTest {
         Check.due("visitedAt(10)", d.visitedAt(10), 10);
         Check.due("visitedAt(11)", d.visitedAt(11), NONE);
         Twins.unchanged("visitedAt(1)", () -> Makers.grid(2), it -> it.visitedAt(1), NONE);
+        DungeonBuilder later = Makers.line(12);
+        Check.due("visitedAt(11) while it is", later.visitedAt(11), 11);
+        for (int c = 10; c >= 0; c--) {
+            later.setLock(c, 2);
+            Check.due("visitedAt(" + (c + 1) + ") not any more", later.visitedAt(c + 1), NONE);
+            Check.due("visit(" + (c + 1) + ") not any more", later.visit(c + 1), NO_SUCH_ELEMENT);
+        }
     }
 
     private static void noSuchVisitedAt() {
@@ -300,6 +316,12 @@ public final class EdgesOfVisitsTest {
         Check.due("keysFound() before a lock", all.keysFound(), 1);
         all.setKey(0, 5);
         Check.due("keysFound() behind it", all.keysFound(), 63);
+        for (int color = 0; color <= 5; color++) {
+            DungeonBuilder closed = Makers.line(2);
+            closed.setLock(0, color);
+            closed.setKey(1, 5);
+            Check.due("keysFound() before a lock of color " + color, closed.keysFound(), 0);
+        }
     }
 
     private static void tensions() {

@@ -133,6 +133,14 @@ public final class EdgesOfWalksTest {
         Check.due("missing(11)", d.missing(11), 32);
         d.setKey(0, 5);
         Check.due("missing(11) with the key", d.missing(11), NONE);
+        for (int color = 0; color <= 5; color++) {
+            DungeonBuilder open = Makers.line(3);
+            open.setLock(0, color);
+            open.setKey(0, color);
+            Check.due("missing(1) with the key " + color, open.missing(1), NONE);
+            open.setLock(1, (color + 1) % 6);
+            Check.due("missing(2) behind the other lock", open.missing(2), 1 << (color + 1) % 6);
+        }
     }
 
     private static void missingNone() {
@@ -188,6 +196,22 @@ public final class EdgesOfWalksTest {
         Check.due("walkLength(11)", d.walkLength(11), NONE);
         d.setKey(11, 0);
         Check.due("walkLength(11) with the key behind the lock", d.walkLength(11), NONE);
+        DungeonBuilder later = Makers.line(12);
+        Check.due("walkLength(11) while there is a walk", later.walkLength(11), 11);
+        for (int c = 10; c >= 0; c--) {
+            later.setLock(c, 2);
+            Check.due("walkLength(" + (c + 1) + ") without one", later.walkLength(c + 1), NONE);
+            Check.due("walkLength(11) without one", later.walkLength(11), NONE);
+            Check.due("criticalLength()", later.criticalLength(), c);
+        }
+        for (int c = 0; c < 11; c++) {
+            DungeonBuilder locked = Makers.line(12);
+            Check.due("walkLength(11) while there is a walk", locked.walkLength(11), 11);
+            locked.setLock(c, 2);
+            for (int room = 0; room < 12; room++) {
+                Check.due("walkLength(" + room + ") with lock " + c, locked.walkLength(room), room <= c ? room : NONE);
+            }
+        }
     }
 
     private static void lengthZero() {
