@@ -2,7 +2,7 @@ import java.math.BigInteger;
 
 /**
  * The edges of what the document says of random numbers, of building and of what is added by itself: promises 9 to 11.
- * The rooms and corridors that are due for a seed come from a program that was written for this alone in another language.
+ * The rooms and corridors that are due for a seed come from a program in another language, written for this alone.
  */
 public final class EdgesOfBuildingTest {
     private static final int BAD_VALUE = -102;
@@ -13,27 +13,34 @@ public final class EdgesOfBuildingTest {
     private static final int MAX = Integer.MAX_VALUE;
 
     public static void main(String[] args) {
-        Check.words("the state becomes the state times 1103515245 plus 12345, as an int", EdgesOfBuildingTest::stateWrapsAround);
+        Check.words("the state becomes the state times 1103515245 plus 12345, as an int",
+                EdgesOfBuildingTest::stateWrapsAround);
         Check.words("the seed, any int", EdgesOfBuildingTest::anySeed);
         Check.words("the number of levels, 0 to 5", EdgesOfBuildingTest::levels);
         Check.words("build: BAD_VALUE", EdgesOfBuildingTest::badLevels);
-        Check.words("A part of a level that is less than the number of levels is cut", EdgesOfBuildingTest::lessThanTheLevels);
+        Check.words("A part of a level that is less than the number of levels is cut",
+                EdgesOfBuildingTest::lessThanTheLevels);
         Check.words("is cut if its width is at least 10, with a height of 9", EdgesOfBuildingTest::widthOfTen);
         Check.words("is cut if its height is at least 10, with a width of 9", EdgesOfBuildingTest::heightOfTen);
         Check.words("a part of 9 by 9 is not cut", EdgesOfBuildingTest::nineByNine);
         Check.words("if both are, a number is drawn from 2: with a width of 10", EdgesOfBuildingTest::bothWithWidthOfTen);
-        Check.words("if both are, a number is drawn from 2: with a height of 10", EdgesOfBuildingTest::bothWithHeightOfTen);
-        Check.words("a left and a right part if it is 0, an upper and a lower one if it is 1", EdgesOfBuildingTest::directions);
+        Check.words("if both are, a number is drawn from 2: with a height of 10",
+                EdgesOfBuildingTest::bothWithHeightOfTen);
+        Check.words("a left and a right part if it is 0, an upper and a lower one if it is 1",
+                EdgesOfBuildingTest::directions);
         Check.words("otherwise it is cut in the direction that is at least 10", EdgesOfBuildingTest::theOtherDirection);
-        Check.words("The size of the first part is 5 plus a number: the least and the greatest", EdgesOfBuildingTest::firstParts);
+        Check.words("The size of the first part is 5 plus a number: the least and the greatest",
+                EdgesOfBuildingTest::firstParts);
         Check.words("3 plus a number drawn from w - 4, for a part of 5: always 3", EdgesOfBuildingTest::leastParts);
         Check.words("the width, but at most 12", EdgesOfBuildingTest::widthAtMostTwelve);
         Check.words("its height, but at most 12", EdgesOfBuildingTest::heightAtMostTwelve);
         Check.words("building up to 12 rooms", EdgesOfBuildingTest::twelveRooms);
         Check.words("of several the lowest room of the first part", EdgesOfBuildingTest::lowestOfTheFirstPart);
         Check.words("then the lowest one of the second part", EdgesOfBuildingTest::lowestOfTheSecondPart);
-        Check.words("the lowest room of the first part before that of the second part", EdgesOfBuildingTest::firstPartBeforeSecond);
-        Check.words("everything is removed, including locks and keys, the entrance is room 0", EdgesOfBuildingTest::everythingIsRemoved);
+        Check.words("the lowest room of the first part before that of the second part",
+                EdgesOfBuildingTest::firstPartBeforeSecond);
+        Check.words("everything is removed, including locks and keys, the entrance is room 0",
+                EdgesOfBuildingTest::everythingIsRemoved);
         Check.words("everything is removed: building after building", EdgesOfBuildingTest::builtAgain);
         Check.words("Building leaves the curve and the text as they are", EdgesOfBuildingTest::curveAndText);
         Check.words("addLoop: NONE if all rooms have corridors between them", EdgesOfBuildingTest::noLoop);
@@ -54,7 +61,8 @@ public final class EdgesOfBuildingTest {
         Check.words("The color is the lowest one that no lock and no key has", EdgesOfBuildingTest::lowestColor);
         Check.words("the first lock to the last color", EdgesOfBuildingTest::sixLocks);
         Check.words("rooms that have no key", EdgesOfBuildingTest::roomsWithoutKey);
-        Check.words("and that a visit would reach if this corridor were not there", EdgesOfBuildingTest::roomsThatAVisitReaches);
+        Check.words("and that a visit would reach if this corridor were not there",
+                EdgesOfBuildingTest::roomsThatAVisitReaches);
         Check.words("the one with the greatest depth, of several the lowest one", EdgesOfBuildingTest::greatestDepth);
         Check.end();
     }
@@ -83,7 +91,8 @@ public final class EdgesOfBuildingTest {
         int[] from = {20, 12, 0, 0};
         int[] drawn = new int[4];
         for (int i = 0; i < 4; i++) {
-            state = state.multiply(BigInteger.valueOf(1103515245)).add(BigInteger.valueOf(12345)).mod(BigInteger.TWO.pow(32));
+            BigInteger next = state.multiply(BigInteger.valueOf(1103515245)).add(BigInteger.valueOf(12345));
+            state = next.mod(BigInteger.TWO.pow(32));
             BigInteger number = state.shiftRight(16).mod(BigInteger.TWO.pow(15));
             drawn[i] = number.mod(BigInteger.valueOf(from[i])).intValue();
             if (i < 2) {
@@ -123,7 +132,8 @@ public final class EdgesOfBuildingTest {
 
     private static void badLevels() {
         for (int levels : new int[] {-1, 6, MIN, MAX}) {
-            Twins.unchanged("build(1, " + levels + ") of none", Makers::emptyWithText, d -> d.build(1, levels), BAD_VALUE);
+            Twins.unchanged("build(1, " + levels + ") of none", Makers::emptyWithText, d -> d.build(1, levels),
+                    BAD_VALUE);
             Twins.unchanged("build(1, " + levels + ")", Makers::rich, d -> d.build(1, levels), BAD_VALUE);
             Twins.unchanged("build(1, " + levels + ") among 12", Makers::full, d -> d.build(1, levels), BAD_VALUE);
         }
@@ -131,10 +141,10 @@ public final class EdgesOfBuildingTest {
 
     /** With 5 levels the part of the columns 14 to 18 and the rows 0 to 9 is cut, which is of level 4. */
     private static void lessThanTheLevels() {
-        built(217, 5, rooms(1, 1, 3, 7, 1, 12, 3, 3, 7, 1, 6, 6, 8, 10, 4, 5, 15, 1, 3, 3, 15, 6, 3, 3, 15, 12, 3, 3, 20, 2, 3, 3,
-                20, 11, 3, 4), 0, 1, 2, 3, 4, 5, 5, 6, 7, 8, 6, 8, 3, 6, 0, 2);
-        built(217, 4, rooms(1, 1, 3, 3, 1, 10, 3, 3, 6, 4, 5, 3, 10, 11, 3, 3, 15, 4, 3, 3, 15, 12, 3, 3, 20, 1, 3, 3, 20, 8, 3,
-                7), 0, 1, 2, 3, 4, 5, 6, 7, 5, 7, 3, 5, 0, 2);
+        built(217, 5, rooms(1, 1, 3, 7, 1, 12, 3, 3, 7, 1, 6, 6, 8, 10, 4, 5, 15, 1, 3, 3, 15, 6, 3, 3, 15, 12, 3, 3,
+                20, 2, 3, 3, 20, 11, 3, 4), 0, 1, 2, 3, 4, 5, 5, 6, 7, 8, 6, 8, 3, 6, 0, 2);
+        built(217, 4, rooms(1, 1, 3, 3, 1, 10, 3, 3, 6, 4, 5, 3, 10, 11, 3, 3, 15, 4, 3, 3, 15, 12, 3, 3, 20, 1, 3,
+                3, 20, 8, 3, 7), 0, 1, 2, 3, 4, 5, 6, 7, 5, 7, 3, 5, 0, 2);
     }
 
     /** The columns 0 to 9 and the rows 0 to 8. */
@@ -188,8 +198,8 @@ public final class EdgesOfBuildingTest {
     private static void leastParts() {
         built(6, 1, rooms(1, 2, 3, 3, 7, 5, 7, 8), 0, 1);
         built(8, 1, rooms(5, 7, 12, 4, 20, 6, 3, 7), 0, 1);
-        built(19, 4, rooms(1, 1, 3, 3, 6, 1, 3, 3, 1, 6, 3, 3, 7, 6, 3, 3, 2, 12, 3, 3, 7, 11, 3, 4, 12, 2, 4, 3, 18, 1, 4, 3,
-                12, 7, 4, 3, 13, 12, 3, 3, 19, 7, 3, 3, 19, 12, 4, 3),
+        built(19, 4, rooms(1, 1, 3, 3, 6, 1, 3, 3, 1, 6, 3, 3, 7, 6, 3, 3, 2, 12, 3, 3, 7, 11, 3, 4, 12, 2, 4, 3, 18,
+                1, 4, 3, 12, 7, 4, 3, 13, 12, 3, 3, 19, 7, 3, 3, 19, 12, 4, 3),
                 0, 1, 2, 3, 4, 5, 3, 5, 0, 2, 6, 7, 8, 9, 10, 11, 8, 10, 6, 8, 5, 9);
     }
 
@@ -418,7 +428,8 @@ public final class EdgesOfBuildingTest {
             d.setKey(0, 1);
             d.setKey(1, 1);
         }), DungeonBuilder::placeLock, STATE);
-        Twins.unchanged("placeLock() behind a lock on the near side", Makers.then(() -> Makers.grid(4, 0, 1, 0, 2, 2, 3), d -> {
+        Twins.unchanged("placeLock() behind a lock on the near side", Makers.then(() -> Makers.grid(4, 0, 1, 0, 2, 2, 3),
+                d -> {
             d.setKey(0, 1);
             d.setLock(0, 5);
         }), DungeonBuilder::placeLock, STATE);

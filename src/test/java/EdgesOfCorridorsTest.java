@@ -12,7 +12,8 @@ public final class EdgesOfCorridorsTest {
         Check.words("There are at most 20 corridors", EdgesOfCorridorsTest::atMostTwenty);
         Check.words("numbered from 0 in the order in which they were added", EdgesOfCorridorsTest::numbers);
         Check.words("addCorridor: NO_SUCH_ELEMENT if a room does not exist", EdgesOfCorridorsTest::noSuchRooms);
-        Check.words("NO_SUCH_ELEMENT (checked first); BAD_VALUE if both are the same", EdgesOfCorridorsTest::noSuchRoomFirst);
+        Check.words("NO_SUCH_ELEMENT (checked first); BAD_VALUE if both are the same",
+                EdgesOfCorridorsTest::noSuchRoomFirst);
         Check.words("BAD_VALUE if both are the same (checked second)", EdgesOfCorridorsTest::bothTheSame);
         Check.words("CONFLICT if they have a corridor already (checked third)", EdgesOfCorridorsTest::corridorAlready);
         Check.words("FULL if there are 20 corridors", EdgesOfCorridorsTest::fullOfCorridors);
@@ -25,7 +26,8 @@ public final class EdgesOfCorridorsTest {
         Check.words("setKey: NO_SUCH_ELEMENT (checked first); BAD_VALUE", EdgesOfCorridorsTest::noSuchKey);
         Check.words("setKey: BAD_VALUE", EdgesOfCorridorsTest::badKey);
         Check.words("Several locks and several keys can have the same color", EdgesOfCorridorsTest::sameColor);
-        Check.words("Removes a corridor with its lock: the first and the last one", EdgesOfCorridorsTest::removeFirstAndLast);
+        Check.words("Removes a corridor with its lock: the first and the last one",
+                EdgesOfCorridorsTest::removeFirstAndLast);
         Check.words("The numbers of the later ones decrease by 1", EdgesOfCorridorsTest::laterCorridors);
         Check.words("Returns the number of corridors that remain, down to 0", EdgesOfCorridorsTest::removeAll);
         Check.words("removeCorridor: NO_SUCH_ELEMENT", EdgesOfCorridorsTest::removeNone);
@@ -36,7 +38,8 @@ public final class EdgesOfCorridorsTest {
         Check.words("2 for the color of its lock, NONE without one", EdgesOfCorridorsTest::lockOfACorridor);
         Check.words("corridor: NO_SUCH_ELEMENT (checked first)", EdgesOfCorridorsTest::noSuchCorridor);
         Check.words("corridor: BAD_VALUE", EdgesOfCorridorsTest::noSuchNumberOfACorridor);
-        Check.words("between: NO_SUCH_ELEMENT if a room does not exist (checked first)", EdgesOfCorridorsTest::betweenNoSuchRooms);
+        Check.words("between: NO_SUCH_ELEMENT if a room does not exist (checked first)",
+                EdgesOfCorridorsTest::betweenNoSuchRooms);
         Check.words("Returns the corridor, the first and the last one; NONE", EdgesOfCorridorsTest::betweenRooms);
         Check.end();
     }
@@ -75,7 +78,8 @@ public final class EdgesOfCorridorsTest {
     }
 
     private static void noSuchRooms() {
-        Twins.unchanged("addCorridor(0, 1) without rooms", Makers::emptyWithText, d -> d.addCorridor(0, 1), NO_SUCH_ELEMENT);
+        Twins.unchanged("addCorridor(0, 1) without rooms", Makers::emptyWithText, d -> d.addCorridor(0, 1),
+                NO_SUCH_ELEMENT);
         for (int room : new int[] {-1, 5, 12, MIN, MAX}) {
             Twins.unchanged("addCorridor(" + room + ", 0)", Makers::rich, d -> d.addCorridor(room, 0), NO_SUCH_ELEMENT);
             Twins.unchanged("addCorridor(4, " + room + ")", Makers::rich, d -> d.addCorridor(4, room), NO_SUCH_ELEMENT);
@@ -87,9 +91,11 @@ public final class EdgesOfCorridorsTest {
     }
 
     private static void noSuchRoomFirst() {
-        Twins.unchanged("addCorridor(0, 0) without rooms", Makers::emptyWithText, d -> d.addCorridor(0, 0), NO_SUCH_ELEMENT);
+        Twins.unchanged("addCorridor(0, 0) without rooms", Makers::emptyWithText, d -> d.addCorridor(0, 0),
+                NO_SUCH_ELEMENT);
         for (int room : new int[] {-1, 5, MIN, MAX}) {
-            Twins.unchanged("addCorridor of a room that is not", Makers::rich, d -> d.addCorridor(room, room), NO_SUCH_ELEMENT);
+            Twins.unchanged("addCorridor of a room that is not", Makers::rich, d -> d.addCorridor(room, room),
+                    NO_SUCH_ELEMENT);
         }
         Twins.unchanged("addCorridor(12, 12) among 20", Makers::full, d -> d.addCorridor(12, 12), NO_SUCH_ELEMENT);
     }
@@ -250,7 +256,8 @@ public final class EdgesOfCorridorsTest {
     }
 
     private static void removeNone() {
-        Twins.unchanged("removeCorridor(0) without any", Makers::emptyWithText, d -> d.removeCorridor(0), NO_SUCH_ELEMENT);
+        Twins.unchanged("removeCorridor(0) without any", Makers::emptyWithText, d -> d.removeCorridor(0),
+                NO_SUCH_ELEMENT);
         Twins.unchanged("removeCorridor(4) of 4", Makers::rich, d -> d.removeCorridor(4), NO_SUCH_ELEMENT);
         Twins.unchanged("removeCorridor(-1)", Makers::rich, d -> d.removeCorridor(-1), NO_SUCH_ELEMENT);
         Twins.unchanged("removeCorridor(20) of 20", Makers::full, d -> d.removeCorridor(20), NO_SUCH_ELEMENT);

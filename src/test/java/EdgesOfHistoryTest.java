@@ -13,13 +13,15 @@ public final class EdgesOfHistoryTest {
         Check.words("The latest 6 changes can be undone, the latest first", EdgesOfHistoryTest::latestSix);
         Check.words("Returns the number of changes that can still be undone", EdgesOfHistoryTest::stillToUndo);
         Check.words("Undoes the latest change that was not undone", EdgesOfHistoryTest::notUndone);
-        Check.words("Changes that are older than the latest 6 at some time cannot be undone any more", EdgesOfHistoryTest::olderChanges);
+        Check.words("Changes that are older than the latest 6 at some time cannot be undone any more",
+                EdgesOfHistoryTest::olderChanges);
         Check.words("even after others have been undone", EdgesOfHistoryTest::afterOthers);
         Check.words("the changes, one by one", EdgesOfHistoryTest::everyChange);
         Check.words("read is a change", EdgesOfHistoryTest::readIsChange);
         Check.words("the changes where all is full", EdgesOfHistoryTest::changesWhereAllIsFull);
         Check.words("are changes, also if nothing changes", EdgesOfHistoryTest::nothingChanges);
-        Check.words("NONE as the previous color of setLock or setKey is no error code", EdgesOfHistoryTest::noPreviousColor);
+        Check.words("NONE as the previous color of setLock or setKey is no error code",
+                EdgesOfHistoryTest::noPreviousColor);
         Check.words("calls that return an error code are no changes", EdgesOfHistoryTest::refusedCalls);
         Check.words("calls that return an error code push no change out", EdgesOfHistoryTest::refusedCallsAmongSix);
         Check.words("append, save and questions are no changes", EdgesOfHistoryTest::otherCalls);

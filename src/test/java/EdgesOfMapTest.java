@@ -424,7 +424,8 @@ public final class EdgesOfMapTest {
             String cell = c[0] + ", " + c[1];
             Twins.unchanged("steps from " + cell, Makers::rich, d -> d.steps(c[0], c[1], 0, 0), NO_SUCH_ELEMENT);
             Twins.unchanged("steps to " + cell, Makers::rich, d -> d.steps(0, 0, c[0], c[1]), NO_SUCH_ELEMENT);
-            Twins.unchanged("from " + cell + " into rock", Makers::rich, d -> d.steps(c[0], c[1], 0, 15), NO_SUCH_ELEMENT);
+            Twins.unchanged("from " + cell + " into rock", Makers::rich, d -> d.steps(c[0], c[1], 0, 15),
+                    NO_SUCH_ELEMENT);
             Twins.unchanged("from rock to " + cell, Makers::rich, d -> d.steps(0, 15, c[0], c[1]), NO_SUCH_ELEMENT);
             Check.due("steps without rooms", new DungeonBuilder().steps(c[0], c[1], 0, 0), NO_SUCH_ELEMENT);
         }
@@ -452,10 +453,12 @@ public final class EdgesOfMapTest {
 
     private static void fewSteps() {
         DungeonBuilder d = Makers.line(2);
-        int[][] due = {{0, 0, 0, 0, 0}, {0, 0, 1, 0, 1}, {0, 0, 0, 1, 1}, {1, 1, 0, 0, 2}, {1, 0, 0, 1, 2}, {2, 1, 2, 1, 0},
+        int[][] due = {{0, 0, 0, 0, 0}, {0, 0, 1, 0, 1}, {0, 0, 0, 1, 1}, {1, 1, 0, 0, 2}, {1, 0, 0, 1, 2}, {2, 1, 2, 1,
+                0},
             {1, 1, 4, 1, 3}, {1, 0, 4, 0, 5}, {5, 0, 0, 0, 7}};
         for (int[] c : due) {
-            Check.due("steps from " + c[0] + ", " + c[1] + " to " + c[2] + ", " + c[3], d.steps(c[0], c[1], c[2], c[3]), c[4]);
+            Check.due("steps from " + c[0] + ", " + c[1] + " to " + c[2] + ", " + c[3], d.steps(c[0], c[1], c[2], c[3]),
+                    c[4]);
         }
     }
 

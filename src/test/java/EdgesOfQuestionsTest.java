@@ -56,6 +56,8 @@ public final class EdgesOfQuestionsTest {
             harmless("corridor(2, " + what + ")", d -> d.corridor(2, what));
         }
         harmless("between(0, 1)", d -> d.between(0, 1));
+        harmless("between(0, 2)", d -> d.between(0, 2));
+        harmless("between(11, 1)", d -> d.between(11, 1));
         harmless("entrance()", DungeonBuilder::entrance);
         harmless("faultPosition()", DungeonBuilder::faultPosition);
     }

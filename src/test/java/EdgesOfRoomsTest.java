@@ -225,7 +225,8 @@ public final class EdgesOfRoomsTest {
 
     private static void touching() {
         DungeonBuilder d = new DungeonBuilder();
-        int[][] rooms = {{8, 6, 4, 3}, {6, 6, 2, 3}, {12, 6, 2, 3}, {8, 4, 4, 2}, {8, 9, 4, 2}, {6, 4, 2, 2}, {12, 4, 2, 2},
+        int[][] rooms = {{8, 6, 4, 3}, {6, 6, 2, 3}, {12, 6, 2, 3}, {8, 4, 4, 2}, {8, 9, 4, 2}, {6, 4, 2, 2}, {12, 4, 2,
+                2},
             {6, 9, 2, 2}, {12, 9, 2, 2}};
         for (int i = 0; i < rooms.length; i++) {
             int[] r = rooms[i];
@@ -237,7 +238,8 @@ public final class EdgesOfRoomsTest {
         int[][] bad = {{0, 0, 1, 2}, {0, 0, 2, 1}, {0, 0, 13, 2}, {0, 0, 2, 13}, {-1, 0, 2, 2}, {0, -1, 2, 2}};
         for (int[] r : bad) {
             Twins.unchanged("addRoom on a room", Makers::rich, d -> d.addRoom(r[0], r[1], r[2], r[3]), BAD_VALUE);
-            Twins.unchanged("addRoom on a room among 12", Makers::full, d -> d.addRoom(r[0], r[1], r[2], r[3]), BAD_VALUE);
+            Twins.unchanged("addRoom on a room among 12", Makers::full, d -> d.addRoom(r[0], r[1], r[2], r[3]),
+                    BAD_VALUE);
         }
         Twins.unchanged("addRoom(23, 14, 2, 2) among 12", Makers::full, d -> d.addRoom(23, 14, 2, 2), BAD_VALUE);
     }
@@ -441,7 +443,8 @@ public final class EdgesOfRoomsTest {
     private static void noSuchRoom() {
         for (int room : new int[] {-1, 5, 12, MIN, MAX}) {
             for (int what : new int[] {0, 7, 8, -1}) {
-                Twins.unchanged("room(" + room + ", " + what + ")", Makers::rich, d -> d.room(room, what), NO_SUCH_ELEMENT);
+                Twins.unchanged("room(" + room + ", " + what + ")", Makers::rich, d -> d.room(room, what),
+                        NO_SUCH_ELEMENT);
             }
         }
         Check.due("room(0, 0) without rooms", new DungeonBuilder().room(0, 0), NO_SUCH_ELEMENT);

@@ -44,8 +44,10 @@ public final class EdgesOfTextsTest {
         Check.words("the index of the first character that cannot continue a text", EdgesOfTextsTest::anyCharacter);
         Check.words("or the length of the text if it ends too early", EdgesOfTextsTest::endsTooEarly);
         Check.words("the fault position at the end of the longest text", EdgesOfTextsTest::faultsAtSixty);
-        Check.words("the index of the first character of the first command that was refused", EdgesOfTextsTest::refusedAt);
-        Check.words("NONE if that text had no fault and no command was refused, or none was read", EdgesOfTextsTest::noFault);
+        Check.words("the index of the first character of the first command that was refused",
+                EdgesOfTextsTest::refusedAt);
+        Check.words("NONE if that text had no fault and no command was refused, or none was read",
+                EdgesOfTextsTest::noFault);
         Check.words("The fault position is that of the latest text", EdgesOfTextsTest::latestText);
         Check.end();
     }
@@ -147,7 +149,8 @@ public final class EdgesOfTextsTest {
         Twins.unchanged("a bad one to 60", () -> written(entrances(60)), d -> d.append(32), BAD_VALUE);
         Twins.unchanged("the last one bad to 60", () -> written(entrances(60)), d -> d.append(packed('e', 'e', 'e', 127)),
                 BAD_VALUE);
-        Twins.unchanged("the first one bad to 57", () -> written(entrances(57)), d -> d.append(packed(200, 'e', 'e', 'e')),
+        Twins.unchanged("the first one bad to 57", () -> written(entrances(57)), d -> d.append(packed(200, 'e', 'e',
+                'e')),
                 BAD_VALUE);
     }
 
@@ -223,7 +226,8 @@ public final class EdgesOfTextsTest {
     }
 
     private static void greatestNumbers() {
-        for (String text : new String[] {"r99,0,2,2", "r20,99,2,2", "r20,14,99,2", "r20,14,2,99", "r99,99,99,99", "c99,0", "c0,99",
+        for (String text : new String[] {"r99,0,2,2", "r20,99,2,2", "r20,14,99,2", "r20,14,2,99", "r99,99,99,99",
+                "c99,0", "c0,99",
             "c99,99", "l99,0", "l0,99", "k99,0", "k0,99", "e99"}) {
             Twins.unread(text, Makers::richWithoutText, STATE, 0);
         }
@@ -282,7 +286,8 @@ public final class EdgesOfTextsTest {
     }
 
     private static void refusedRooms() {
-        for (String text : new String[] {"r20,14,1,2", "r20,14,2,1", "r0,4,13,2", "r20,3,2,13", "r23,14,2,2", "r22,15,2,2", "r0,0,2,2",
+        for (String text : new String[] {"r20,14,1,2", "r20,14,2,1", "r0,4,13,2", "r20,3,2,13", "r23,14,2,2",
+                "r22,15,2,2", "r0,0,2,2",
             "r0,0,0,0"}) {
             Twins.unread(text, Makers::richWithoutText, STATE, 0);
         }
@@ -390,7 +395,8 @@ public final class EdgesOfTextsTest {
         String sound = "r1,22,3,99;c0,11;l1,2;k12,3;e4";
         for (int place = 0; place <= sound.length(); place++) {
             for (char sign = 33; sign <= 126; sign++) {
-                String text = sound.substring(0, place) + sign + (place < sound.length() ? sound.substring(place + 1) : "");
+                String text = sound.substring(0,
+                        place) + sign + (place < sound.length() ? sound.substring(place + 1) : "");
                 DungeonBuilder d = written(text);
                 boolean good = TEXT.matcher(text).matches();
                 Check.due("read() of " + text, d.read(), good ? STATE : BAD_VALUE);
@@ -412,8 +418,10 @@ public final class EdgesOfTextsTest {
     }
 
     private static void faultsAtSixty() {
-        Object[][] texts = {{entrances(60), 60}, {entrances(58), 58}, {entrances(57) + "e0,", 59}, {entrances(57) + "e", 58},
-            {entrances(57) + "r", 58}, {entrances(57) + "r0,", 60}, {entrances(57) + "c00", 60}, {entrances(57) + "x", 57},
+        Object[][] texts = {{entrances(60), 60}, {entrances(58), 58}, {entrances(57) + "e0,", 59}, {entrances(57) + "e",
+                58},
+            {entrances(57) + "r", 58}, {entrances(57) + "r0,", 60}, {entrances(57) + "c00", 60}, {entrances(57) + "x",
+                    57},
             {entrances(54) + "c0,1,", 58}, {entrances(54) + "c0,1;e", 60}, {entrances(54) + "l00,00", NONE}};
         for (Object[] text : texts) {
             DungeonBuilder d = Makers.grid(2, 0, 1);
@@ -427,7 +435,8 @@ public final class EdgesOfTextsTest {
     private static void refusedAt() {
         for (int command = 0; command < 20; command++) {
             DungeonBuilder d = Makers.grid(1);
-            Check.write(d, entrances(3 * command) + "e1" + ";e2;e0".substring(0, command < 18 ? 6 : command == 18 ? 3 : 0));
+            Check.write(d, entrances(3 * command) + "e1" + ";e2;e0".substring(0,
+                    command < 18 ? 6 : command == 18 ? 3 : 0));
             Check.due("read()", d.read(), STATE);
             Check.due("faultPosition()", d.faultPosition(), 3 * command);
         }

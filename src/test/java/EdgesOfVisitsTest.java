@@ -11,9 +11,11 @@ public final class EdgesOfVisitsTest {
         Check.words("and -1 if there is no way", EdgesOfVisitsTest::depthWithoutWay);
         Check.words("depth: NO_SUCH_ELEMENT", EdgesOfVisitsTest::noSuchDepth);
         Check.words("with curve 0, the difficulty is 10 times its depth", EdgesOfVisitsTest::curveZero);
-        Check.words("with curve 1, the square of its depth plus cells divided by 4, rounded down", EdgesOfVisitsTest::curveOne);
+        Check.words("with curve 1, the square of its depth plus cells divided by 4, rounded down",
+                EdgesOfVisitsTest::curveOne);
         Check.words("With curve 1, the number of cells alone is divided by 4", EdgesOfVisitsTest::cellsAlone);
-        Check.words("with curve 2, 100 minus 10 times the number of its corridors, plus its depth", EdgesOfVisitsTest::curveTwo);
+        Check.words("with curve 2, 100 minus 10 times the number of its corridors, plus its depth",
+                EdgesOfVisitsTest::curveTwo);
         Check.words("A room with depth -1 has the difficulty 500", EdgesOfVisitsTest::lostRooms);
         Check.words("difficulty: NO_SUCH_ELEMENT", EdgesOfVisitsTest::noSuchDifficulty);
         Check.words("Returns how many rooms are visited, 0 to 12", EdgesOfVisitsTest::visits);
@@ -23,21 +25,25 @@ public final class EdgesOfVisitsTest {
         Check.words("the one with the least difficulty", EdgesOfVisitsTest::leastDifficulty);
         Check.words("of several the lowest one", EdgesOfVisitsTest::lowestOfSeveral);
         Check.words("or a lock with a color of which a visited room has a key", EdgesOfVisitsTest::keysOfVisitedRooms);
-        Check.words("A key that is found is kept and opens all locks of its color", EdgesOfVisitsTest::allLocksOfItsColor);
+        Check.words("A key that is found is kept and opens all locks of its color",
+                EdgesOfVisitsTest::allLocksOfItsColor);
         Check.words("visitedAt: NONE if it is not visited", EdgesOfVisitsTest::notVisited);
         Check.words("visitedAt: NO_SUCH_ELEMENT (checked first)", EdgesOfVisitsTest::noSuchVisitedAt);
         Check.words("isSolvable: Returns 1 if it can, 0 otherwise", EdgesOfVisitsTest::solvable);
         Check.words("isSolvable: NONE if there are no rooms", EdgesOfVisitsTest::solvableWithoutRooms);
-        Check.words("Returns the colors of the keys in the visited rooms: each one, none and all", EdgesOfVisitsTest::keysFound);
+        Check.words("Returns the colors of the keys in the visited rooms: each one, none and all",
+                EdgesOfVisitsTest::keysFound);
         Check.words("tension: its position in the order of the visit, from 1", EdgesOfVisitsTest::tensions);
-        Check.words("tension: NO_SUCH_ELEMENT if no room is visited at this position, or it is less than 1", EdgesOfVisitsTest::noSuchTension);
+        Check.words("tension: NO_SUCH_ELEMENT if no room is visited at this position, or it is less than 1",
+                EdgesOfVisitsTest::noSuchTension);
         Check.words("Returns the difference plus 1000, the least and the greatest", EdgesOfVisitsTest::greatTensions);
         Check.words("Returns how often a room has a lower difficulty than the one before it", EdgesOfVisitsTest::drops);
         Check.words("the sum, over all visited rooms but the first one", EdgesOfVisitsTest::backtracking);
         Check.words("the least number of corridors, where locks do not matter", EdgesOfVisitsTest::backtrackingWithLocks);
         Check.words("averageBits: Long.MIN_VALUE if there are no rooms", EdgesOfVisitsTest::averageWithoutRooms);
         Check.words("the bits of the double, as by Double.doubleToLongBits", EdgesOfVisitsTest::averages);
-        Check.words("the average difficulty of all rooms, also of those that are not visited", EdgesOfVisitsTest::averageOfAllRooms);
+        Check.words("the average difficulty of all rooms, also of those that are not visited",
+                EdgesOfVisitsTest::averageOfAllRooms);
         Check.end();
     }
 
@@ -192,7 +198,8 @@ public final class EdgesOfVisitsTest {
 
     private static void noSuchVisit() {
         for (int index : new int[] {-1, 3, 4, 5, 12, MIN, MAX}) {
-            Twins.unchanged("visit(" + index + ")", Makers.then(Makers::rich, d -> d.setLock(2, 1)), d -> d.visit(index), NO_SUCH_ELEMENT);
+            Twins.unchanged("visit(" + index + ")", Makers.then(Makers::rich, d -> d.setLock(2, 1)), d -> d.visit(index),
+                    NO_SUCH_ELEMENT);
         }
         Check.due("visit(0) without rooms", new DungeonBuilder().visit(0), NO_SUCH_ELEMENT);
         Check.due("visit(-1) without rooms", new DungeonBuilder().visit(-1), NO_SUCH_ELEMENT);
@@ -336,7 +343,8 @@ public final class EdgesOfVisitsTest {
 
     private static void noSuchTension() {
         for (int index : new int[] {-1, 0, 3, 4, 5, 12, MIN, MAX}) {
-            Twins.unchanged("tension(" + index + ")", Makers.then(Makers::rich, d -> d.setLock(2, 1)), d -> d.tension(index), NO_SUCH_ELEMENT);
+            Twins.unchanged("tension(" + index + ")", Makers.then(Makers::rich, d -> d.setLock(2, 1)),
+                    d -> d.tension(index), NO_SUCH_ELEMENT);
         }
         for (int index : new int[] {-1, 0, 1, 2, MIN, MAX}) {
             Check.due("tension(" + index + ") without rooms", new DungeonBuilder().tension(index), NO_SUCH_ELEMENT);
@@ -404,7 +412,8 @@ public final class EdgesOfVisitsTest {
     }
 
     private static void averageWithoutRooms() {
-        Twins.unchanged("averageBits() without rooms", Makers::emptyWithText, DungeonBuilder::averageBits, Long.MIN_VALUE);
+        Twins.unchanged("averageBits() without rooms", Makers::emptyWithText, DungeonBuilder::averageBits,
+                Long.MIN_VALUE);
         DungeonBuilder d = Makers.grid(1);
         d.removeRoom(0);
         Check.due("averageBits() after removing the only room", d.averageBits(), Long.MIN_VALUE);
@@ -427,7 +436,8 @@ public final class EdgesOfVisitsTest {
         Check.due("averageBits() of 0, 10 and 10", Makers.star(3).averageBits(), 0x401aaaaaaaaaaaabL);
         for (int curve = 0; curve <= 2; curve++) {
             for (int rooms = 1; rooms <= 12; rooms++) {
-                DungeonBuilder[] all = {Makers.line(rooms), Makers.star(rooms), Makers.grid(rooms), Makers.complete(Math.min(rooms, 7))};
+                DungeonBuilder[] all = {Makers.line(rooms), Makers.star(rooms), Makers.grid(rooms),
+                        Makers.complete(Math.min(rooms, 7))};
                 for (DungeonBuilder d : all) {
                     d.setCurve(curve);
                     average(d);
@@ -457,6 +467,7 @@ public final class EdgesOfVisitsTest {
         DungeonBuilder d = Makers.line(3);
         d.setLock(0, 0);
         Check.due("averageBits() of 0, 10 and 20", d.averageBits(), Double.doubleToLongBits(10.0));
-        Check.due("averageBits() of 0 and eleven times 500", Makers.grid(12).averageBits(), Double.doubleToLongBits(5500.0 / 12.0));
+        Check.due("averageBits() of 0 and eleven times 500", Makers.grid(12).averageBits(),
+                Double.doubleToLongBits(5500.0 / 12.0));
     }
 }

@@ -10,7 +10,8 @@ public final class EdgesOfWalksTest {
         Check.words("needed: NO_SUCH_ELEMENT (checked first)", EdgesOfWalksTest::neededNoSuchRoom);
         Check.words("needed: NONE if the room is not visited", EdgesOfWalksTest::neededNotVisited);
         Check.words("Returns the colors without which a room cannot be reached: none", EdgesOfWalksTest::neededNone);
-        Check.words("Returns the colors without which a room cannot be reached: each one and all", EdgesOfWalksTest::neededColors);
+        Check.words("Returns the colors without which a room cannot be reached: each one and all",
+                EdgesOfWalksTest::neededColors);
         Check.words("if all keys of this color are taken away", EdgesOfWalksTest::neededAllKeys);
         Check.words("missing: NO_SUCH_ELEMENT (checked first)", EdgesOfWalksTest::missingNoSuchRoom);
         Check.words("missing: NONE if the room is visited", EdgesOfWalksTest::missingVisited);
@@ -21,10 +22,12 @@ public final class EdgesOfWalksTest {
         Check.words("walkLength: NONE if there is no walk", EdgesOfWalksTest::lengthNone);
         Check.words("A walk begins in the entrance: a walk of no steps", EdgesOfWalksTest::lengthZero);
         Check.words("Returns the number of steps of the walk to a room, of many steps", EdgesOfWalksTest::lengths);
-        Check.words("one of the rooms of the walk up to there, including the present one, has a key", EdgesOfWalksTest::includingThePresentOne);
+        Check.words("one of the rooms of the walk up to there, including the present one, has a key",
+                EdgesOfWalksTest::includingThePresentOne);
         Check.words("the rooms of the walk up to there, and no others", EdgesOfWalksTest::noOthers);
         Check.words("The walk to a room is the shortest one that ends in it", EdgesOfWalksTest::shortest);
-        Check.words("the one whose sequence of rooms is lexicographically least", EdgesOfWalksTest::lexicographicallyLeast);
+        Check.words("the one whose sequence of rooms is lexicographically least",
+                EdgesOfWalksTest::lexicographicallyLeast);
         Check.words("the first room that differs decides", EdgesOfWalksTest::firstThatDiffers);
         Check.words("walkRoom: NO_SUCH_ELEMENT (checked first)", EdgesOfWalksTest::roomNoSuchRoom);
         Check.words("walkRoom: NONE if there is no walk (checked second)", EdgesOfWalksTest::roomNone);
@@ -55,7 +58,8 @@ public final class EdgesOfWalksTest {
 
     private static void neededNotVisited() {
         Twins.unchanged("needed(1) apart", () -> Makers.grid(2), d -> d.needed(1), NONE);
-        Twins.unchanged("needed(1) behind a lock", Makers.then(() -> Makers.line(2), d -> d.setLock(0, 5)), d -> d.needed(1), NONE);
+        Twins.unchanged("needed(1) behind a lock", Makers.then(() -> Makers.line(2), d -> d.setLock(0, 5)),
+                d -> d.needed(1), NONE);
         DungeonBuilder d = Makers.line(12);
         d.setLock(10, 0);
         Check.due("needed(10)", d.needed(10), 0);
@@ -189,7 +193,8 @@ public final class EdgesOfWalksTest {
 
     private static void lengthNone() {
         Twins.unchanged("walkLength(1) apart", () -> Makers.grid(2), d -> d.walkLength(1), NONE);
-        Twins.unchanged("walkLength(1) behind a lock", Makers.then(() -> Makers.line(2), d -> d.setLock(0, 5)), d -> d.walkLength(1), NONE);
+        Twins.unchanged("walkLength(1) behind a lock", Makers.then(() -> Makers.line(2), d -> d.setLock(0, 5)),
+                d -> d.walkLength(1), NONE);
         DungeonBuilder d = Makers.line(12);
         d.setLock(10, 0);
         Check.due("walkLength(10)", d.walkLength(10), 10);
@@ -307,7 +312,8 @@ public final class EdgesOfWalksTest {
     private static void roomNoSuchRoom() {
         for (int room : new int[] {-1, 5, 12, MIN, MAX}) {
             for (int step : new int[] {-1, 0, 1, 99}) {
-                Twins.unchanged("walkRoom(" + room + ", " + step + ")", Makers::rich, d -> d.walkRoom(room, step), NO_SUCH_ELEMENT);
+                Twins.unchanged("walkRoom(" + room + ", " + step + ")", Makers::rich, d -> d.walkRoom(room, step),
+                        NO_SUCH_ELEMENT);
             }
         }
         Check.due("walkRoom(0, 0) without rooms", new DungeonBuilder().walkRoom(0, 0), NO_SUCH_ELEMENT);
@@ -317,7 +323,8 @@ public final class EdgesOfWalksTest {
     private static void roomNone() {
         for (int step : new int[] {-1, 0, 1, 99, MIN, MAX}) {
             Twins.unchanged("walkRoom(1, " + step + ") apart", () -> Makers.grid(2), d -> d.walkRoom(1, step), NONE);
-            Twins.unchanged("walkRoom(1, " + step + ") behind a lock", Makers.then(() -> Makers.line(2), d -> d.setLock(0, 5)),
+            Twins.unchanged("walkRoom(1, " + step + ") behind a lock", Makers.then(() -> Makers.line(2),
+                    d -> d.setLock(0, 5)),
                     d -> d.walkRoom(1, step), NONE);
         }
     }

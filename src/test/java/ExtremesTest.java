@@ -9,8 +9,10 @@ public final class ExtremesTest {
     private static final int MIN = Integer.MIN_VALUE;
     private static final int MAX = Integer.MAX_VALUE;
 
-    private static final int[] EDGES = {MIN, MIN + 1, MIN + 32, -1000, -25, -24, -13, -12, -3, -2, -1, 0, 1, 2, 3, 4, 5, 6, 7, 8, 9, 10,
-        11, 12, 13, 14, 15, 16, 17, 19, 20, 21, 22, 23, 24, 25, 31, 32, 33, 63, 64, 127, 255, 256, 512, 999, 1000, 65536, 1 << 30,
+    private static final int[] EDGES = {MIN, MIN + 1, MIN + 32, -1000, -25, -24, -13, -12, -3, -2, -1, 0, 1, 2, 3, 4, 5,
+            6, 7, 8, 9, 10,
+        11, 12, 13, 14, 15, 16, 17, 19, 20, 21, 22, 23, 24, 25, 31, 32, 33, 63, 64, 127, 255, 256, 512, 999, 1000, 65536,
+                1 << 30,
         MAX - 32, MAX - 1, MAX};
     private static final int[] FEW = {MIN, -2, -1, 0, 1, 4, 5, 6, 8, 11, 12, 19, 20, 32, MAX};
     private static final int[] COLUMNS = {MIN, -1, 0, 12, 13, 21, 22, 23, 24, MAX};
@@ -20,7 +22,8 @@ public final class ExtremesTest {
     private static final String[][] TEXTS = {
         {},
         {"r0,0,2,3;r4,0,3,2;r8,1,5,4;r16,0,7,3;r16,4,4,8", "c0,1;c1,2;c2,3;c0,3;l1,2;k0,2;k3,5;l2,0;e1"},
-        {"r0,0,2,2;r4,0,2,2;r8,0,2,2;r12,0,2,2;r16,0,2,2;r20,0,2,2", "r0,8,2,2;r4,8,2,2;r8,8,2,2;r12,8,2,2;r16,8,2,2;r20,8,2,2",
+        {"r0,0,2,2;r4,0,2,2;r8,0,2,2;r12,0,2,2;r16,0,2,2;r20,0,2,2",
+                "r0,8,2,2;r4,8,2,2;r8,8,2,2;r12,8,2,2;r16,8,2,2;r20,8,2,2",
             "c0,1;c0,2;c0,3;c0,4;c0,5;c0,6;c0,7;c0,8;c0,9;c0,10;c0,11", "c1,2;c1,3;c1,4;c1,5;c1,6;c1,7;c1,8;c1,9;c1,10",
             "l0,0;l5,1;l10,2;l19,3;k11,3;k0,1;k1,0;e3"},
     };
@@ -141,7 +144,8 @@ public final class ExtremesTest {
             String call = "(" + a + ")";
             change("setEntrance" + call, texts, (d, i, j) -> d.setEntrance(i), (m, i, j) -> m.setEntrance(i), a, 0);
             change("removeRoom" + call, texts, (d, i, j) -> d.removeRoom(i), (m, i, j) -> m.removeRoom(i), a, 0);
-            change("removeCorridor" + call, texts, (d, i, j) -> d.removeCorridor(i), (m, i, j) -> m.removeCorridor(i), a, 0);
+            change("removeCorridor" + call, texts, (d, i, j) -> d.removeCorridor(i), (m, i, j) -> m.removeCorridor(i), a,
+                    0);
             change("setCurve" + call, texts, (d, i, j) -> d.setCurve(i), (m, i, j) -> m.setCurve(i), a, 0);
             change("append" + call, texts, (d, i, j) -> d.append(i), (m, i, j) -> m.append(i), a, 0);
             change("build(7, " + a + ")", texts, (d, i, j) -> d.build(7, i), (m, i, j) -> m.build(7, i), a, 0);
@@ -150,7 +154,8 @@ public final class ExtremesTest {
         for (int a : FEW) {
             for (int b : FEW) {
                 String call = "(" + a + ", " + b + ")";
-                change("addCorridor" + call, texts, (d, i, j) -> d.addCorridor(i, j), (m, i, j) -> m.addCorridor(i, j), a, b);
+                change("addCorridor" + call, texts, (d, i, j) -> d.addCorridor(i, j), (m, i, j) -> m.addCorridor(i, j),
+                        a, b);
                 change("setLock" + call, texts, (d, i, j) -> d.setLock(i, j), (m, i, j) -> m.setLock(i, j), a, b);
                 change("setKey" + call, texts, (d, i, j) -> d.setKey(i, j), (m, i, j) -> m.setKey(i, j), a, b);
             }

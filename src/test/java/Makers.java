@@ -124,7 +124,8 @@ final class Makers {
     }
 
     /** What a maker makes, and one thing more. */
-    static Supplier<DungeonBuilder> then(Supplier<DungeonBuilder> made, java.util.function.Consumer<DungeonBuilder> more) {
+    static Supplier<DungeonBuilder> then(Supplier<DungeonBuilder> made,
+            java.util.function.Consumer<DungeonBuilder> more) {
         return () -> {
             DungeonBuilder d = made.get();
             more.accept(d);
