@@ -395,8 +395,8 @@ public final class EdgesOfTextsTest {
         String sound = "r1,22,3,99;c0,11;l1,2;k12,3;e4";
         for (int place = 0; place <= sound.length(); place++) {
             for (char sign = 33; sign <= 126; sign++) {
-                String text = sound.substring(0,
-                        place) + sign + (place < sound.length() ? sound.substring(place + 1) : "");
+                String rest = place < sound.length() ? sound.substring(place + 1) : "";
+                String text = sound.substring(0, place) + sign + rest;
                 DungeonBuilder d = written(text);
                 boolean good = TEXT.matcher(text).matches();
                 Check.due("read() of " + text, d.read(), good ? STATE : BAD_VALUE);
@@ -418,11 +418,19 @@ public final class EdgesOfTextsTest {
     }
 
     private static void faultsAtSixty() {
-        Object[][] texts = {{entrances(60), 60}, {entrances(58), 58}, {entrances(57) + "e0,", 59}, {entrances(57) + "e",
-                58},
-            {entrances(57) + "r", 58}, {entrances(57) + "r0,", 60}, {entrances(57) + "c00", 60}, {entrances(57) + "x",
-                    57},
-            {entrances(54) + "c0,1,", 58}, {entrances(54) + "c0,1;e", 60}, {entrances(54) + "l00,00", NONE}};
+        Object[][] texts = {
+            {entrances(60), 60},
+            {entrances(58), 58},
+            {entrances(57) + "e0,", 59},
+            {entrances(57) + "e", 58},
+            {entrances(57) + "r", 58},
+            {entrances(57) + "r0,", 60},
+            {entrances(57) + "c00", 60},
+            {entrances(57) + "x", 57},
+            {entrances(54) + "c0,1,", 58},
+            {entrances(54) + "c0,1;e", 60},
+            {entrances(54) + "l00,00", NONE},
+        };
         for (Object[] text : texts) {
             DungeonBuilder d = Makers.grid(2, 0, 1);
             Check.write(d, (String) text[0]);
@@ -435,8 +443,8 @@ public final class EdgesOfTextsTest {
     private static void refusedAt() {
         for (int command = 0; command < 20; command++) {
             DungeonBuilder d = Makers.grid(1);
-            Check.write(d, entrances(3 * command) + "e1" + ";e2;e0".substring(0,
-                    command < 18 ? 6 : command == 18 ? 3 : 0));
+            String after = command < 18 ? ";e2;e0" : command == 18 ? ";e2" : "";
+            Check.write(d, entrances(3 * command) + "e1" + after);
             Check.due("read()", d.read(), STATE);
             Check.due("faultPosition()", d.faultPosition(), 3 * command);
         }
